@@ -1,56 +1,78 @@
-/** Promise 12: commits, and the commit ranks beside it. */
+/** Promise 12: commits. */
 public final class CommitsTest {
-    private static final Due due = new Due();
+    private static final Due due = new Due("Promise 12");
 
     public static void main(String[] args) {
-        growsByOneWithEachCommit();
-        abortsDoNotCount();
+        due.holds("answers the total number of commits so far", CommitsTest::countsTheCommittedOnes);
+        due.holds("It is 0 on a fresh object", CommitsTest::isZeroAtFirst);
+        due.holds("and grows by 1 with each COMMIT.", CommitsTest::growsByOneWithEachCommit);
+        due.holds("Right after a commit, it equals the new commit rank.", CommitsTest::equalsTheNewRank);
+        due.holds("It changes nothing.", CommitsTest::changesNothing);
         due.end();
     }
 
+    private static void countsTheCommittedOnes() {
+        for (int number = 0; number < Situations.COUNT; number++) {
+            WoundWaitLocks x = Situations.make(number);
+            int committed = 0;
+            for (int tx = 0; tx < Situations.TXS; tx++) {
+                committed += Table.state(x, tx) == WoundWaitLocks.ST_COMMITTED ? 1 : 0;
+            }
+            due.is(Situations.name(number) + ": commits()", x.commits(), committed);
+        }
+    }
+
+    private static void isZeroAtFirst() {
+        for (int txs = 2; txs <= 8; txs++) {
+            WoundWaitLocks x = new WoundWaitLocks(0, 1, txs);
+            due.is("commits() of a fresh object", x.commits(), 0);
+            x.step();
+            due.is("commits() after EV_NONE", x.commits(), 0);
+            x.begin(0);
+            due.is("commits() after a begin", x.commits(), 0);
+        }
+    }
+
+    /** Operations, waits, restarts and aborts leave it alone. */
     private static void growsByOneWithEachCommit() {
+        for (int policy = 0; policy <= 1; policy++) {
+            WoundWaitLocks x = Situations.make(4 + policy);
+            x.begin(Situations.IDLE_TX);
+            int commits = 0;
+            boolean[] met = new boolean[6];
+            for (int i = 0; i < 200; i++) {
+                int event = x.step();
+                met[event] = true;
+                commits += event == WoundWaitLocks.EV_COMMIT ? 1 : 0;
+                due.is("commits() after step " + i, x.commits(), commits);
+            }
+            due.is("commits() in the end", x.commits(), Situations.TXS);
+            due.yes("a wait is met", met[WoundWaitLocks.EV_WAIT]);
+            due.yes("a restart is met", met[WoundWaitLocks.EV_RESTART]);
+        }
+    }
+
+    private static void equalsTheNewRank() {
         WoundWaitLocks x = new WoundWaitLocks(0, 1, 8);
-        due.is("commits() of a fresh object", x.commits(), 0);
         for (int tx = 0; tx < 8; tx++) {
             for (int i = 0; i < 8 - tx; i++) {
-                x.addOp(tx, 1, 0, 0);
+                x.addOp(tx, WoundWaitLocks.OP_READ, 0, 0);
             }
             x.begin(tx);
         }
-        due.is("commits() after begins", x.commits(), 0);
         int commits = 0;
         for (int i = 0; i < 60; i++) {
-            int event = x.step();
-            if (event == WoundWaitLocks.EV_COMMIT) {
+            if (x.step() == WoundWaitLocks.EV_COMMIT) {
                 commits++;
-                int rank = x.txInfo(x.lastTx(), WoundWaitLocks.F_COMMIT_RANK);
-                due.is("F_COMMIT_RANK of " + x.lastTx(), rank, commits);
                 due.is("the one that commits", x.lastTx(), 8 - commits);
+                due.is("commits()", x.commits(), x.txInfo(x.lastTx(), WoundWaitLocks.F_COMMIT_RANK));
+                due.is("commits()", x.commits(), commits);
             }
-            due.is("commits() after step " + i, x.commits(), commits);
         }
-        due.is("commits() at the end", x.commits(), 8);
-        for (int tx = 0; tx < 8; tx++) {
-            due.is("F_COMMIT_RANK of " + tx, x.txInfo(tx, WoundWaitLocks.F_COMMIT_RANK), 8 - tx);
-        }
-        String before = Table.shown(x);
-        x.commits();
-        due.same("the state", Table.shown(x), before);
+        due.is("commits() in the end", x.commits(), 8);
     }
 
-    private static void abortsDoNotCount() {
-        for (int policy = 0; policy <= 1; policy++) {
-            WoundWaitLocks x = new WoundWaitLocks(policy, 1, 2);
-            Table.script(x, 0, "w0+1");
-            Table.script(x, 1, "w0+2");
-            int older = policy == WoundWaitLocks.WOUND_WAIT ? 1 : 0;
-            Table.beginAll(x, older, 1 - older);
-            x.run(2);
-            int aborts = x.txInfo(0, WoundWaitLocks.F_ABORTS) + x.txInfo(1, WoundWaitLocks.F_ABORTS);
-            due.is("F_ABORTS of both", aborts, 1);
-            due.is("commits()", x.commits(), 0);
-            x.run(64);
-            due.is("commits()", x.commits(), 2);
-        }
+    private static void changesNothing() {
+        Situations.unchangedBy(due, "commits", WoundWaitLocks::commits);
     }
 }

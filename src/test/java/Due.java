@@ -1,7 +1,30 @@
-/** Counts the answers of one test that are not the ones that are due, and prints each. */
+/** Counts the answers of one test that are not the ones that are due, and prints each with its sentence. */
 final class Due {
+    private final String part;
+    private String sentence = "";
+    private int sentences = 0;
     private int asked = 0;
     private int wrong = 0;
+
+    /** The part of the document that the test is about. */
+    Due(String part) {
+        this.part = part;
+    }
+
+    /** Runs the test of one sentence of the document, or in brackets of what follows from several. */
+    void holds(String sentence, Runnable test) {
+        this.sentence = sentence;
+        sentences++;
+        int askedBefore = asked;
+        try {
+            test.run();
+        } catch (RuntimeException thrown) {
+            fail("threw " + thrown + " at " + thrown.getStackTrace()[0]);
+        }
+        if (asked == askedBefore) {
+            fail("nothing was asked");
+        }
+    }
 
     void is(String call, long got, long want) {
         same(call, Long.toString(got), Long.toString(want));
@@ -18,8 +41,7 @@ final class Due {
     void same(String call, String got, String want) {
         asked++;
         if (!got.equals(want)) {
-            wrong++;
-            System.out.println(call + " answered " + got + ", due is " + want);
+            fail(call + " answered " + got + ", due is " + want);
         }
     }
 
@@ -28,9 +50,14 @@ final class Due {
     }
 
     void end() {
-        System.out.println(wrong + " of " + asked + " answers are not as due");
-        if (wrong != 0 || asked == 0) {
+        System.out.println(part + ": " + sentences + " sentences, " + asked + " answers, " + wrong + " not as due");
+        if (wrong != 0 || sentences == 0) {
             System.exit(1);
         }
+    }
+
+    private void fail(String what) {
+        wrong++;
+        System.out.println(part + ", \"" + sentence + "\": " + what);
     }
 }

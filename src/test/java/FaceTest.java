@@ -8,7 +8,8 @@ import java.util.TreeSet;
 
 /** The public face: every constant, the constructor and every method of the document, and nothing else. */
 public final class FaceTest {
-    private static final Due due = new Due();
+    private static final Class<?> FACE = WoundWaitLocks.class;
+    private static final Due due = new Due("The public face");
 
     private static final String[] CONSTANTS = {
         "WOUND_WAIT 0", "WAIT_DIE 1", "OP_READ 1", "OP_WRITE 2", "MODE_NONE 0", "MODE_S 1", "MODE_X 2",
@@ -24,39 +25,54 @@ public final class FaceTest {
         "int queueLength[int]", "int queueAt[int, int]", "int lastTx[]", "int lastWounds[]", "int commits[]",
     };
 
-    public static void main(String[] args) throws IllegalAccessException {
-        Class<?> face = WoundWaitLocks.class;
-        due.is("the class's modifiers", face.getModifiers(), Modifier.PUBLIC | Modifier.FINAL);
-        due.is("nested classes", face.getDeclaredClasses().length, 0);
-        constants(face);
-        methods(face);
-        Constructor<?>[] made = face.getDeclaredConstructors();
+    public static void main(String[] args) {
+        due.holds("public final class WoundWaitLocks", FaceTest::theClass);
+        due.holds("public static final int", FaceTest::constants);
+        due.holds("public WoundWaitLocks(int policy, int rows, int txs)", FaceTest::constructor);
+        due.holds("(every method of the public face, and no other)", FaceTest::methods);
+        due.end();
+    }
+
+    private static void theClass() {
+        due.is("the class's modifiers", FACE.getModifiers(), Modifier.PUBLIC | Modifier.FINAL);
+        due.is("nested classes", FACE.getDeclaredClasses().length, 0);
+    }
+
+    private static void constructor() {
+        Constructor<?>[] made = FACE.getDeclaredConstructors();
         due.is("constructors", made.length, 1);
         due.is("its modifiers", made[0].getModifiers(), Modifier.PUBLIC);
         due.same("its parameters", Arrays.toString(made[0].getParameterTypes()), "[int, int, int]");
-        due.end();
     }
 
     private static boolean isPrivate(Member member) {
         return Modifier.isPrivate(member.getModifiers());
     }
 
-    private static void constants(Class<?> face) throws IllegalAccessException {
+    private static void constants() {
         TreeSet<String> found = new TreeSet<>();
-        for (Field field : face.getDeclaredFields()) {
+        for (Field field : FACE.getDeclaredFields()) {
             if (!isPrivate(field)) {
                 int constant = Modifier.PUBLIC | Modifier.STATIC | Modifier.FINAL;
                 due.is("the modifiers of " + field.getName(), field.getModifiers(), constant);
                 due.same("the type of " + field.getName(), field.getType().toString(), "int");
-                found.add(field.getName() + " " + field.getInt(null));
+                found.add(field.getName() + " " + valueOf(field));
             }
         }
         due.same("the constants", found.toString(), new TreeSet<>(Arrays.asList(CONSTANTS)).toString());
     }
 
-    private static void methods(Class<?> face) {
+    private static int valueOf(Field constant) {
+        try {
+            return constant.getInt(null);
+        } catch (IllegalAccessException hidden) {
+            throw new IllegalStateException(hidden);
+        }
+    }
+
+    private static void methods() {
         TreeSet<String> found = new TreeSet<>();
-        for (Method method : face.getDeclaredMethods()) {
+        for (Method method : FACE.getDeclaredMethods()) {
             if (!isPrivate(method)) {
                 due.is("the modifiers of " + method.getName(), method.getModifiers(), Modifier.PUBLIC);
                 String parameters = Arrays.toString(method.getParameterTypes());

@@ -1,25 +1,22 @@
 /** Promise 8: holdMode. */
 public final class HoldModeTest {
-    private static final Due due = new Due();
+    private static final Due due = new Due("Promise 8");
 
     public static void main(String[] args) {
-        answersTheLockOfEachCell();
-        answersNoneOutside();
+        due.holds("answers the lock tx holds on row: MODE_NONE, MODE_S or MODE_X", HoldModeTest::answersEachLock);
+        due.holds("If tx is outside 0..T-1", HoldModeTest::answersNoneOfNoTransaction);
+        due.holds("or row is outside 0..R-1, it answers MODE_NONE.", HoldModeTest::answersNoneOfNoRow);
+        due.holds("It changes nothing.", HoldModeTest::changesNothing);
         due.end();
     }
 
     /** Transaction tx reads row tx and writes row tx + 8, so that no two cells are alike by chance. */
-    private static WoundWaitLocks fullTable() {
+    private static void answersEachLock() {
         WoundWaitLocks x = new WoundWaitLocks(0, 16, 8);
         for (int tx = 0; tx < 8; tx++) {
             Table.script(x, tx, "r" + tx + " w" + (tx + 8) + "+1");
             x.begin(tx);
         }
-        return x;
-    }
-
-    private static void answersTheLockOfEachCell() {
-        WoundWaitLocks x = fullTable();
         for (int round = 0; round <= 3; round++) {
             for (int tx = 0; tx < 8; tx++) {
                 for (int row = 0; row < 16; row++) {
@@ -33,30 +30,51 @@ public final class HoldModeTest {
         }
     }
 
-    private static void answersNoneOutside() {
-        WoundWaitLocks x = new WoundWaitLocks(0, 4, 3);
-        for (int tx = 0; tx < 3; tx++) {
-            Table.script(x, tx, "r0 r3 r1 r2");
+    /** All transactions hold a lock on every row, up to eight rows. */
+    private static WoundWaitLocks allLocked(int rows, int txs) {
+        WoundWaitLocks x = new WoundWaitLocks(0, rows, txs);
+        int reads = Math.min(rows, 8);
+        for (int tx = 0; tx < txs; tx++) {
+            for (int i = 0; i < reads; i++) {
+                x.addOp(tx, WoundWaitLocks.OP_READ, rows - 1 - i, 0);
+            }
             x.begin(tx);
         }
-        x.run(12);
-        String before = Table.shown(x);
-        for (int i = 0; i < 4; i++) {
-            due.is("holdMode(3, " + i + ")", x.holdMode(3, i), 0);
-            due.is("holdMode(-1, " + i + ")", x.holdMode(-1, i), 0);
-            for (int far : Table.FAR) {
-                due.is("holdMode(" + far + ", " + i + ")", x.holdMode(far, i), 0);
-                due.is("holdMode(" + i + ", " + far + ")", x.holdMode(i, far), 0);
-                due.is("holdMode(" + far + ", " + far + ")", x.holdMode(far, far), 0);
+        x.run(reads * txs);
+        return x;
+    }
+
+    private static void answersNoneOfNoTransaction() {
+        for (int txs = 2; txs <= 8; txs++) {
+            WoundWaitLocks x = allLocked(8, txs);
+            due.is("holdMode of the last", x.holdMode(txs - 1, 7), WoundWaitLocks.MODE_S);
+            for (int tx : Table.outside(txs)) {
+                for (int row = -17; row <= 33; row++) {
+                    due.is("holdMode(" + tx + ", " + row + ") of " + txs, x.holdMode(tx, row), 0);
+                }
             }
         }
-        for (int tx = 0; tx < 3; tx++) {
-            due.is("holdMode(" + tx + ", 4)", x.holdMode(tx, 4), 0);
-            due.is("holdMode(" + tx + ", 16)", x.holdMode(tx, 16), 0);
-            due.is("holdMode(" + tx + ", -1)", x.holdMode(tx, -1), 0);
-            due.is("holdMode(" + tx + ", -16)", x.holdMode(tx, -16), 0);
-            due.is("holdMode(" + tx + ", 3)", x.holdMode(tx, 3), WoundWaitLocks.MODE_S);
+    }
+
+    private static void answersNoneOfNoRow() {
+        for (int rows = 1; rows <= 16; rows++) {
+            WoundWaitLocks x = allLocked(rows, 8);
+            due.is("holdMode on the last row", x.holdMode(7, rows - 1), WoundWaitLocks.MODE_S);
+            for (int row : Table.outside(rows)) {
+                for (int tx = -9; tx <= 17; tx++) {
+                    due.is("holdMode(" + tx + ", " + row + ") of " + rows, x.holdMode(tx, row), 0);
+                }
+            }
         }
-        due.same("the state", Table.shown(x), before);
+    }
+
+    private static void changesNothing() {
+        Situations.unchangedBy(due, "holdMode", x -> {
+            for (int tx : Table.ANY) {
+                for (int row : Table.ANY) {
+                    x.holdMode(tx, row);
+                }
+            }
+        });
     }
 }

@@ -297,7 +297,7 @@ final class Model {
             }
             text.append("] ");
         }
-        text.append(lastTx).append(' ').append(lastWounds).append(' ').append(commits);
+        text.append(commits).append(" ").append(lastTx).append(" ").append(lastWounds);
         return text.toString();
     }
 }

@@ -4,7 +4,7 @@
  */
 public final class ModelTest {
     private static final int RUNS = 3000;
-    private static final Due due = new Due();
+    private static final Due due = new Due("All promises");
     private static long seed = 20261115L;
 
     private static int woundsOfSeveral = 0;
@@ -16,18 +16,25 @@ public final class ModelTest {
     private static int deaths = 0;
 
     public static void main(String[] args) {
+        due.holds("(every call answers as the model does, and the waiting order holds)", ModelTest::manyRuns);
+        due.holds("(the runs met every rare turn)", ModelTest::metEveryRareTurn);
+        due.end();
+    }
+
+    private static void manyRuns() {
         for (int run = 0; run < RUNS && due.allRight(); run++) {
             oneRun(run);
         }
-        System.out.println("met: " + woundsOfSeveral + " turns with several wounds, "
-            + woundsAfterHandoff + " wounds of one no longer blocking, "
-            + waitsAfterWounds + " waits after wounds, " + waitingUpgrades + " waiting upgrades, "
-            + longestQueue + " in the longest queue, " + handoffsOfSeveral + " handoffs of several, "
-            + deaths + " deaths");
-        due.yes("the runs met every rare turn", woundsOfSeveral > 0 && woundsAfterHandoff > 0
-            && waitsAfterWounds > 0 && waitingUpgrades > 0 && longestQueue == 7
-            && handoffsOfSeveral > 0 && deaths > 0);
-        due.end();
+    }
+
+    private static void metEveryRareTurn() {
+        due.yes("several wounds in a turn", woundsOfSeveral > 0);
+        due.yes("a wound of one no longer blocking", woundsAfterHandoff > 0);
+        due.yes("a wait after wounds", waitsAfterWounds > 0);
+        due.yes("a waiting upgrade", waitingUpgrades > 0);
+        due.yes("a handoff of several", handoffsOfSeveral > 0);
+        due.yes("a death", deaths > 0);
+        due.is("the longest queue", longestQueue, 7);
     }
 
     /** A fixed sequence, so that every run of the test is the same. */
@@ -37,7 +44,7 @@ public final class ModelTest {
     }
 
     private static int anyInt() {
-        return Table.FAR[pick(Table.FAR.length)];
+        return Table.ANY[pick(Table.ANY.length)];
     }
 
     private static int mostly(int bound) {
@@ -71,7 +78,8 @@ public final class ModelTest {
         for (int i = 0; i < 150 && due.allRight(); i++) {
             oneCall(name, x, model, rows, txs);
             due.same(name + "the state after call " + i, Table.shown(x), model.shown());
-            waitingOrder(name, x, policy, txs);
+            WaitingOrder.ask(due, name, x, policy, txs);
+            someoneCanAct(name, x, txs);
         }
         woundsOfSeveral += model.woundsOfSeveral;
         woundsAfterHandoff += model.woundsAfterHandoff;
@@ -119,46 +127,10 @@ public final class ModelTest {
         }
     }
 
-    private static void waitingOrder(String name, WoundWaitLocks x, int policy, int txs) {
-        boolean canAct = false;
-        boolean waits = false;
-        for (int w = 0; w < txs; w++) {
-            int state = x.txInfo(w, WoundWaitLocks.F_STATE);
-            canAct |= state == WoundWaitLocks.ST_ACTIVE || state == WoundWaitLocks.ST_ABORTED;
-            if (state == WoundWaitLocks.ST_WAITING) {
-                waits = true;
-                waiterInOrder(name, x, policy, txs, w);
-            }
+    private static void someoneCanAct(String name, WoundWaitLocks x, int txs) {
+        String states = Table.states(x, txs);
+        if (states.contains("2")) {
+            due.yes(name + "someone can act while another waits", states.contains("1") || states.contains("3"));
         }
-        if (waits && !canAct) {
-            due.yes(name + "someone can act while another waits", false);
-        }
-    }
-
-    private static void waiterInOrder(String name, WoundWaitLocks x, int policy, int txs, int w) {
-        int row = x.txInfo(w, WoundWaitLocks.F_WAIT_ROW);
-        int mode = x.txInfo(w, WoundWaitLocks.F_WAIT_MODE);
-        boolean ahead = true;
-        for (int pos = 0; pos < x.queueLength(row); pos++) {
-            int u = x.queueAt(row, pos);
-            ahead = ahead && u != w;
-            if (ahead) {
-                pairInOrder(name, x, policy, u, w);
-            }
-        }
-        for (int u = 0; u < txs; u++) {
-            int held = x.holdMode(u, row);
-            boolean conflicts = mode == WoundWaitLocks.MODE_S ? held == WoundWaitLocks.MODE_X : held != 0;
-            if (u != w && conflicts) {
-                pairInOrder(name, x, policy, u, w);
-            }
-        }
-    }
-
-    private static void pairInOrder(String name, WoundWaitLocks x, int policy, int u, int w) {
-        int ahead = x.txInfo(u, WoundWaitLocks.F_TIMESTAMP);
-        int behind = x.txInfo(w, WoundWaitLocks.F_TIMESTAMP);
-        boolean inOrder = policy == WoundWaitLocks.WOUND_WAIT ? ahead < behind : ahead > behind;
-        due.yes(name + w + " may wait for " + u, inOrder);
     }
 }

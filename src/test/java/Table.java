@@ -1,12 +1,22 @@
+import java.util.Arrays;
+import java.util.stream.IntStream;
+
 /** What the tests have in common: scripts written shortly, and all that an object shows. */
 final class Table {
-    /** Numbers outside every range, and at the edges of int. */
-    static final int[] FAR = {
-        Integer.MIN_VALUE, Integer.MIN_VALUE + 1, -129, -17, -2, -1, 17, 128, 129, 1 << 16,
-        1 << 28, 1 << 29, Integer.MAX_VALUE - 1, Integer.MAX_VALUE
+    /** Numbers of every kind that a call may be handed: within the ranges, at their edges, and far outside. */
+    static final int[] ANY = {
+        Integer.MIN_VALUE, Integer.MIN_VALUE + 1, -(1 << 16), -129, -65, -17, -9, -8, -2, -1, 0, 1, 2, 3, 4, 5, 6,
+        7, 8, 9, 15, 16, 17, 63, 64, 65, 127, 128, 129, 1 << 16, 1 << 28, 1 << 29, Integer.MAX_VALUE - 1,
+        Integer.MAX_VALUE
     };
 
     private Table() {
+    }
+
+    /** Numbers outside 0..bound-1: all the near ones, so that no cell of a neighbour is taken for one's own. */
+    static int[] outside(int bound) {
+        IntStream near = IntStream.rangeClosed(-40, bound + 40);
+        return IntStream.concat(near, Arrays.stream(ANY)).filter(i -> i < 0 || i >= bound).toArray();
     }
 
     /** Adds operations to tx, such as "r0 w3+5 w3-5": reads of a row, and writes of acc and a number. */
@@ -43,8 +53,51 @@ final class Table {
         return text.toString();
     }
 
-    /** All that the queries show of an object, beyond its ranges too. */
-    static String shown(WoundWaitLocks x) {
+    static int state(WoundWaitLocks x, int tx) {
+        return x.txInfo(tx, WoundWaitLocks.F_STATE);
+    }
+
+    static int timestamp(WoundWaitLocks x, int tx) {
+        return x.txInfo(tx, WoundWaitLocks.F_TIMESTAMP);
+    }
+
+    /** The states of the transactions 0..txs-1, one after another, such as "1 3 0". */
+    static String states(WoundWaitLocks x, int txs) {
+        StringBuilder text = new StringBuilder();
+        for (int tx = 0; tx < txs; tx++) {
+            text.append(tx == 0 ? "" : " ").append(state(x, tx));
+        }
+        return text.toString();
+    }
+
+    /** The locks of the transactions 0..txs-1 on row, one after another, such as "1 1 0". */
+    static String holders(WoundWaitLocks x, int txs, int row) {
+        StringBuilder text = new StringBuilder();
+        for (int tx = 0; tx < txs; tx++) {
+            text.append(tx == 0 ? "" : " ").append(x.holdMode(tx, row));
+        }
+        return text.toString();
+    }
+
+    /** The values of the rows 0..rows-1, one after another, such as "5 0 7". */
+    static String values(WoundWaitLocks x, int rows) {
+        StringBuilder text = new StringBuilder();
+        for (int row = 0; row < rows; row++) {
+            text.append(row == 0 ? "" : " ").append(x.rowValue(row));
+        }
+        return text.toString();
+    }
+
+    static String queue(WoundWaitLocks x, int row) {
+        StringBuilder text = new StringBuilder();
+        for (int pos = 0; pos < x.queueLength(row); pos++) {
+            text.append(pos == 0 ? "" : " ").append(x.queueAt(row, pos));
+        }
+        return text.toString();
+    }
+
+    /** All that the queries show of rows, locks, queues, transactions and commits, beyond their ranges too. */
+    static String shownBesideTurn(WoundWaitLocks x) {
         StringBuilder text = new StringBuilder();
         for (int tx = -1; tx <= 8; tx++) {
             text.append("tx").append(tx).append('[');
@@ -65,14 +118,26 @@ final class Table {
             }
             text.append("] ");
         }
-        text.append(x.lastTx()).append(' ').append(x.lastWounds()).append(' ').append(x.commits());
-        return text.toString();
+        return text.append(x.commits()).toString();
     }
 
-    static String queue(WoundWaitLocks x, int row) {
-        StringBuilder text = new StringBuilder();
-        for (int pos = 0; pos < x.queueLength(row); pos++) {
-            text.append(pos == 0 ? "" : " ").append(x.queueAt(row, pos));
+    /** All that the queries show of an object. */
+    static String shown(WoundWaitLocks x) {
+        return shownBesideTurn(x) + " " + x.lastTx() + " " + x.lastWounds();
+    }
+
+    /** All that an object shows now and later, which tells what it keeps inside too; it uses the object up. */
+    static String future(WoundWaitLocks x) {
+        StringBuilder text = new StringBuilder(shown(x));
+        text.append(x.setRow(0, 77));
+        for (int i = 0; i < 30; i++) {
+            text.append(x.step()).append(shown(x));
+        }
+        for (int tx = 7; tx >= 0; tx--) {
+            text.append(x.addOp(tx, WoundWaitLocks.OP_WRITE, 0, tx)).append(x.begin(tx));
+        }
+        for (int i = 0; i < 50; i++) {
+            text.append(x.step()).append(shown(x));
         }
         return text.toString();
     }
