@@ -11,7 +11,8 @@ final class Situations {
     static final int IDLE_TX = 5;
     private static final int FRESH = 2;
     private static final int SET_UP = 2;
-    private static final int MOST_STEPS = 60;
+    /** All is done after 64 steps under wound-wait and after 120 under wait-die; the end is to be met too. */
+    private static final int MOST_STEPS = 123;
     static final int COUNT = FRESH + SET_UP + 2 * MOST_STEPS;
 
     private Situations() {

@@ -126,18 +126,20 @@ final class Table {
         return shownBesideTurn(x) + " " + x.lastTx() + " " + x.lastWounds();
     }
 
-    /** All that an object shows now and later, which tells what it keeps inside too; it uses the object up. */
+    /** What an object shows now, its turns to the end, and what it shows then; it uses the object up. */
     static String future(WoundWaitLocks x) {
         StringBuilder text = new StringBuilder(shown(x));
-        text.append(x.setRow(0, 77));
-        for (int i = 0; i < 30; i++) {
-            text.append(x.step()).append(shown(x));
-        }
+        text.append(x.setRow(0, 77)).append(turns(x, 30));
         for (int tx = 7; tx >= 0; tx--) {
             text.append(x.addOp(tx, WoundWaitLocks.OP_WRITE, 0, tx)).append(x.begin(tx));
         }
-        for (int i = 0; i < 50; i++) {
-            text.append(x.step()).append(shown(x));
+        return text.append(turns(x, 200)).append(shown(x)).toString();
+    }
+
+    private static String turns(WoundWaitLocks x, int steps) {
+        StringBuilder text = new StringBuilder();
+        for (int i = 0; i < steps; i++) {
+            text.append(x.step()).append(' ').append(x.lastTx()).append(' ').append(x.lastWounds()).append(' ');
         }
         return text.toString();
     }

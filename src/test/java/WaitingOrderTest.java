@@ -52,12 +52,16 @@ public final class WaitingOrderTest {
     }
 
     private static void noneMeansAllDone() {
+        int[] ends = new int[2];
         for (int number = 0; number < Situations.COUNT; number++) {
             WoundWaitLocks x = Situations.make(number);
             String states = Table.states(x, Situations.TXS);
             boolean allDone = states.matches("[04 ]*");
             boolean none = x.step() == WoundWaitLocks.EV_NONE;
             due.yes(Situations.name(number) + ": states " + states, none == allDone);
+            ends[Situations.policy(number)] += states.equals("4 4 4 4 4 0") ? 1 : 0;
         }
+        due.yes("wound-wait comes to its end", ends[WoundWaitLocks.WOUND_WAIT] > 0);
+        due.yes("wait-die comes to its end", ends[WoundWaitLocks.WAIT_DIE] > 0);
     }
 }
