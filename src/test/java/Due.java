@@ -45,6 +45,10 @@ final class Due {
         }
     }
 
+    int wrong() {
+        return wrong;
+    }
+
     boolean allRight() {
         return wrong == 0;
     }

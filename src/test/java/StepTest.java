@@ -8,23 +8,29 @@ public final class StepTest {
         due.holds("the cursor becomes its number; lastTx becomes its number", StepTest::cursorFollows);
         due.holds("lastWounds becomes the wound count of the turn, which is 0 unless case (d) wounded.",
             StepTest::lastWoundsFollows);
+        due.holds("The call answers the turn's event.", StepTest::answersTheEvent);
         due.holds("If no such transaction is found, it answers EV_NONE, lastTx becomes -1 and lastWounds becomes 0.",
             StepTest::answersNone);
         due.holds("Nothing else changes: the cursor, values, locks, queues and transactions all stay as they were.",
             StepTest::noneChangesNothing);
         due.holds("OP_READ r needs S or X on r. acc = acc + value[r], then pc = pc + 1.", StepTest::reads);
+        due.holds("OP_WRITE r k needs X on r.", StepTest::writesNeedX);
         due.holds("then set value[r] = acc + k and pc = pc + 1", StepTest::writes);
         due.holds("Both sums wrap as Java int.", StepTest::sumsWrap);
+        due.holds("Only the first matching case applies.", StepTest::oneCaseApplies);
         due.holds("If pc equals the script length: COMMIT(t); the event is EV_COMMIT.",
             StepTest::commitsAtTheEndOfTheScript);
         due.holds("If t holds m on r, perform op; the event is EV_OP. For m = S, holding X also counts.",
             StepTest::aLockHeldIsEnough);
+        due.holds("If the request (t, m, r) is grantable: grant, perform op; the event is EV_OP.",
+            StepTest::grantsAndPerformsInOneTurn);
         due.holds("t's state becomes ST_COMMITTED.", StepTest::commitKeepsTheRest);
         due.holds("Its commit rank becomes (the number of earlier commits) + 1.", StepTest::ranksCount);
         due.holds("Its undo log is emptied.", StepTest::commitIsForGood);
         due.holds("All its locks are dropped.", StepTest::commitDropsAllLocks);
         due.holds("t becomes ST_ACTIVE. This is a restart: pc and acc are 0 and the timestamp is kept."
             + " The event is EV_RESTART.", StepTest::restarts);
+        due.holds("A turn changes nothing beyond what these definitions say.", StepTest::changesNothingBeyond);
         due.holds("timestamps, scripts and the timestamp counter never change during a step",
             StepTest::stepsKeepTimestampsAndScripts);
         due.holds("ST_IDLE and ST_COMMITTED transactions never take a turn", StepTest::idleAndCommittedStay);
@@ -108,6 +114,41 @@ public final class StepTest {
         due.is("lastWounds() after a death", y.lastWounds(), 0);
     }
 
+    /** What the event says is what has become of the transaction that acted; each event is met. */
+    private static void answersTheEvent() {
+        boolean[] met = new boolean[6];
+        for (int number = 0; number < Situations.COUNT; number++) {
+            WoundWaitLocks x = Situations.make(number);
+            WoundWaitLocks before = Situations.make(number);
+            int event = x.step();
+            met[event] = true;
+            due.is(Situations.name(number) + ": step()", event, eventThatLedTo(x, before));
+        }
+        for (int event = 0; event < met.length; event++) {
+            due.yes("the event " + event + " is met", met[event]);
+        }
+    }
+
+    private static int eventThatLedTo(WoundWaitLocks x, WoundWaitLocks before) {
+        int tx = x.lastTx();
+        if (tx == -1) {
+            return WoundWaitLocks.EV_NONE;
+        }
+        if (Table.state(before, tx) == WoundWaitLocks.ST_ABORTED) {
+            return WoundWaitLocks.EV_RESTART;
+        }
+        switch (Table.state(x, tx)) {
+            case WoundWaitLocks.ST_COMMITTED:
+                return WoundWaitLocks.EV_COMMIT;
+            case WoundWaitLocks.ST_WAITING:
+                return WoundWaitLocks.EV_WAIT;
+            case WoundWaitLocks.ST_ABORTED:
+                return WoundWaitLocks.EV_DIE;
+            default:
+                return WoundWaitLocks.EV_OP;
+        }
+    }
+
     /** On a fresh object, and after the commit of each transaction as the only one begun. */
     private static void answersNone() {
         WoundWaitLocks fresh = new WoundWaitLocks(0, 1, 2);
@@ -164,6 +205,23 @@ public final class StepTest {
         }
     }
 
+    /** An S lock, of one's own or of another, is not enough; with it alone the row keeps its value. */
+    private static void writesNeedX() {
+        WoundWaitLocks x = new WoundWaitLocks(WoundWaitLocks.WOUND_WAIT, 1, 2);
+        x.setRow(0, 3);
+        Table.script(x, 0, "r0 r0 r0");
+        Table.script(x, 1, "r0 w0+4");
+        Table.beginAll(x, 0, 1);
+        due.same("events", Table.events(x, 4), "2 2 2 3");
+        due.same("holders", Table.holders(x, 2, 0), "1 1");
+        due.is("rowValue(0) with S alone", x.rowValue(0), 3);
+        due.same("events", Table.events(x, 2), "2 5");
+        due.same("holders", Table.holders(x, 2, 0), "0 2");
+        due.is("rowValue(0) before the turn", x.rowValue(0), 3);
+        due.is("step()", x.step(), WoundWaitLocks.EV_OP);
+        due.is("rowValue(0) with X", x.rowValue(0), 7);
+    }
+
     private static void writes() {
         WoundWaitLocks x = new WoundWaitLocks(1, 3, 2);
         x.setRow(0, 10);
@@ -212,6 +270,42 @@ public final class StepTest {
             due.is("step() after all " + length, x.step(), WoundWaitLocks.EV_COMMIT);
             due.is("F_STATE", Table.state(x, 0), WoundWaitLocks.ST_COMMITTED);
             due.is("F_PC", x.txInfo(0, WoundWaitLocks.F_PC), length);
+        }
+    }
+
+    /** An operation is not followed by the next one or by the commit, nor a restart by an operation. */
+    private static void oneCaseApplies() {
+        WoundWaitLocks x = new WoundWaitLocks(WoundWaitLocks.WOUND_WAIT, 1, 2);
+        Table.script(x, 0, "w0+1");
+        Table.script(x, 1, "r0 r0");
+        Table.beginAll(x, 1, 0);
+        due.is("step() of 0", x.step(), WoundWaitLocks.EV_OP);
+        due.is("F_STATE of 0 after its last operation", Table.state(x, 0), WoundWaitLocks.ST_ACTIVE);
+        due.is("step() of 1", x.step(), WoundWaitLocks.EV_OP);
+        due.is("F_PC of 1 after its first operation", x.txInfo(1, WoundWaitLocks.F_PC), 1);
+        due.is("step() of 0", x.step(), WoundWaitLocks.EV_RESTART);
+        due.is("F_PC of 0 after its restart", x.txInfo(0, WoundWaitLocks.F_PC), 0);
+        due.same("holders", Table.holders(x, 2, 0), "0 1");
+        due.same("events", Table.events(x, 2), "2 3");
+        due.is("step() of 1", x.step(), WoundWaitLocks.EV_COMMIT);
+        due.same("holders after the commit", Table.holders(x, 2, 0), "2 0");
+        due.is("rowValue(0) before the turn of the one admitted", x.rowValue(0), 0);
+    }
+
+    /** A read and a write of a free row, the first and the last one; the lock and the deed come together. */
+    private static void grantsAndPerformsInOneTurn() {
+        for (int policy = 0; policy <= 1; policy++) {
+            for (int row = 0; row < 16; row += 15) {
+                WoundWaitLocks x = new WoundWaitLocks(policy, 16, 8);
+                x.setRow(row, 6);
+                Table.script(x, 7, "r" + row + " w" + (15 - row) + "+1 w" + row + "+2");
+                x.begin(7);
+                due.same("a read", Table.changesOfStep(x), "tx7 pc 1, tx7 acc 6, tx7 on row" + row + " 1");
+                due.same("a write", Table.changesOfStep(x),
+                    "tx7 pc 2, tx7 on row" + (15 - row) + " 2, row" + (15 - row) + " value 7");
+                due.same("an upgrade", Table.changesOfStep(x),
+                    "tx7 pc 3, tx7 on row" + row + " 2, row" + row + " value 8");
+            }
         }
     }
 
@@ -312,6 +406,39 @@ public final class StepTest {
         due.is("lastWounds()", x.lastWounds(), 0);
         due.same("events", Table.events(x, 3), "2 2 5");
         due.is("F_ACC in the end", x.txInfo(1, WoundWaitLocks.F_ACC), 10);
+    }
+
+    private static void changes(WoundWaitLocks x, String... turns) {
+        for (int i = 0; i < turns.length; i++) {
+            due.same("the changes of step " + i, Table.changesOfStep(x), turns[i]);
+        }
+    }
+
+    /** Every case of a turn, with all that it changes: what is not told here stays as it was. */
+    private static void changesNothingBeyond() {
+        WoundWaitLocks x = new WoundWaitLocks(WoundWaitLocks.WOUND_WAIT, 3, 4);
+        x.setRow(0, 5);
+        Table.script(x, 0, "w0+1 w0+2 r1");
+        Table.script(x, 1, "w1+3 r0");
+        Table.script(x, 2, "r2 r1");
+        Table.beginAll(x, 1, 0, 2);
+        changes(x, "tx0 pc 1, tx0 on row0 2, row0 value 1", "tx1 pc 1, tx1 on row1 2, row1 value 3",
+            "tx2 pc 1, tx2 on row2 1", "tx0 pc 2, row0 value 2",
+            "tx0 state 3, tx0 pc 0, tx0 aborts 1, tx0 on row0 0, tx1 pc 2, tx1 acc 5, tx1 on row0 1, row0 value 5",
+            "tx2 state 2, tx2 wait row 1, tx2 wait mode 1, row1 queue 2", "tx0 state 1",
+            "tx1 state 4, tx1 rank 1, tx1 on row0 0, tx1 on row1 0, tx2 state 1, tx2 wait row -1, tx2 wait mode 0,"
+            + " tx2 on row1 1, row1 queue , commits 1",
+            "tx2 pc 2, tx2 acc 3");
+
+        WoundWaitLocks y = new WoundWaitLocks(WoundWaitLocks.WAIT_DIE, 2, 2);
+        Table.script(y, 0, "r1 w0+1");
+        Table.script(y, 1, "w0+9 w1+8");
+        Table.beginAll(y, 0, 1);
+        changes(y, "tx0 pc 1, tx0 on row1 1", "tx1 pc 1, tx1 on row0 2, row0 value 9",
+            "tx0 state 2, tx0 wait row 0, tx0 wait mode 2, row0 queue 0",
+            "tx0 state 1, tx0 wait row -1, tx0 wait mode 0, tx0 on row0 2, tx1 state 3, tx1 pc 0, tx1 aborts 1,"
+            + " tx1 on row0 0, row0 value 0, row0 queue ",
+            "tx0 pc 2, row0 value 1");
     }
 
     private static void stepsKeepTimestampsAndScripts() {

@@ -1,4 +1,6 @@
 import java.util.Arrays;
+import java.util.LinkedHashMap;
+import java.util.Map;
 import java.util.stream.IntStream;
 
 /** What the tests have in common: scripts written shortly, and all that an object shows. */
@@ -93,6 +95,39 @@ final class Table {
         for (int pos = 0; pos < x.queueLength(row); pos++) {
             text.append(pos == 0 ? "" : " ").append(x.queueAt(row, pos));
         }
+        return text.toString();
+    }
+
+    /** Each thing that the queries show, by a name such as "tx0 pc", "tx0 on row1" or "row1 queue". */
+    private static Map<String, String> things(WoundWaitLocks x) {
+        String[] fields = {"state", "timestamp", "pc", "acc", "aborts", "rank", "wait row", "wait mode", "length"};
+        Map<String, String> things = new LinkedHashMap<>();
+        for (int tx = 0; tx < 8; tx++) {
+            for (int field = 0; field < fields.length; field++) {
+                things.put("tx" + tx + " " + fields[field], "" + x.txInfo(tx, field));
+            }
+            for (int row = 0; row < 16; row++) {
+                things.put("tx" + tx + " on row" + row, "" + x.holdMode(tx, row));
+            }
+        }
+        for (int row = 0; row < 16; row++) {
+            things.put("row" + row + " value", "" + x.rowValue(row));
+            things.put("row" + row + " queue", queue(x, row));
+        }
+        things.put("commits", "" + x.commits());
+        return things;
+    }
+
+    /** What a step changes beside lastTx and lastWounds, such as "tx0 pc 1, tx0 on row1 2". */
+    static String changesOfStep(WoundWaitLocks x) {
+        Map<String, String> before = things(x);
+        x.step();
+        StringBuilder text = new StringBuilder();
+        things(x).forEach((thing, now) -> {
+            if (!now.equals(before.get(thing))) {
+                text.append(text.length() == 0 ? "" : ", ").append(thing).append(' ').append(now);
+            }
+        });
         return text.toString();
     }
 

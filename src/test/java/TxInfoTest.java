@@ -5,7 +5,10 @@ public final class TxInfoTest {
     public static void main(String[] args) {
         due.holds("answers one field of tx", TxInfoTest::everyFieldInEveryState);
         due.holds("and changes nothing", TxInfoTest::changesNothing);
+        due.holds("the ST_ constant of tx's state", TxInfoTest::statesAreTheConstants);
         due.holds("the timestamp; 0 while ST_IDLE", TxInfoTest::timestampIsZeroWhileIdle);
+        due.holds("the program counter", TxInfoTest::pcCountsOperations);
+        due.holds("the accumulator", TxInfoTest::accSumsReads);
         due.holds("the number of times ABORT was applied to tx", TxInfoTest::abortsAreCounted);
         due.holds("the commit rank; 0 unless committed", TxInfoTest::rankIsZeroUnlessCommitted);
         due.holds("the wait row; -1 unless ST_WAITING", TxInfoTest::waitRowIsMinusOneUnlessWaiting);
@@ -60,6 +63,38 @@ public final class TxInfoTest {
                 }
             }
         });
+    }
+
+    /** Transaction 1 acts, dies, restarts, acts, waits, is admitted, acts and commits; a field after each step. */
+    private static void throughALife(int field, int... want) {
+        WoundWaitLocks x = new WoundWaitLocks(WoundWaitLocks.WAIT_DIE, 3, 3);
+        x.setRow(2, 7);
+        Table.script(x, 0, "r2 w0+1 w0+2");
+        Table.script(x, 1, "r2 w0+1 w1+1 r0");
+        Table.script(x, 2, "w1+1 w1+1 w1+1 w1+1 w1+1 w1+1");
+        Table.beginAll(x, 0, 1, 2);
+        for (int i = 0; i < want.length; i++) {
+            due.is("txInfo(1, " + field + ") after " + i + " steps", x.txInfo(1, field), want[i]);
+            x.step();
+        }
+    }
+
+    private static void statesAreTheConstants() {
+        due.is("F_STATE of an idle one", Table.state(new WoundWaitLocks(0, 1, 2), 1), WoundWaitLocks.ST_IDLE);
+        int active = WoundWaitLocks.ST_ACTIVE;
+        int aborted = WoundWaitLocks.ST_ABORTED;
+        int waiting = WoundWaitLocks.ST_WAITING;
+        throughALife(WoundWaitLocks.F_STATE, active, active, active, active, active, aborted, aborted, aborted,
+            active, active, active, active, active, active, active, waiting, waiting, active, active, active,
+            WoundWaitLocks.ST_COMMITTED);
+    }
+
+    private static void pcCountsOperations() {
+        throughALife(WoundWaitLocks.F_PC, 0, 0, 1, 1, 1, 0, 0, 0, 0, 0, 0, 1, 1, 2, 2, 2, 2, 2, 3, 4, 4);
+    }
+
+    private static void accSumsReads() {
+        throughALife(WoundWaitLocks.F_ACC, 0, 0, 7, 7, 7, 0, 0, 0, 0, 0, 0, 7, 7, 7, 7, 7, 7, 7, 7, 15, 15);
     }
 
     private static void timestampIsZeroWhileIdle() {

@@ -1,14 +1,21 @@
-/** The boundary sentences of the section "What it is". */
+/** The section "What it is". */
 public final class WhatItIsTest {
     private static final Due due = new Due("What it is");
 
     public static void main(String[] args) {
+        due.holds("It prevents deadlock by timestamp order, under one of two policies: wound-wait or wait-die.",
+            WhatItIsTest::crossedWritersGoByAge);
+        due.holds("Aborted transactions have their writes undone in reverse order and restart later under their"
+            + " original timestamp.", WhatItIsTest::theAbortedAreUndoneAndRestart);
+        due.holds("A round-robin scheduler lets one transaction act per step.", WhatItIsTest::oneActsPerStep);
         due.holds("There are R rows (0..R-1), each holding an int value, initially 0.",
             WhatItIsTest::rowsAreZeroAtFirst);
         due.holds("There are T transactions (0..T-1).", WhatItIsTest::thereAreTTransactions);
         due.holds("a script of at most 8 operations", WhatItIsTest::scriptsHoldEight);
         due.holds("a timestamp, which is 0 until begun", WhatItIsTest::timestampIsZeroUntilBegun);
         due.holds("a commit rank, which is 0 until committed", WhatItIsTest::rankIsZeroUntilCommitted);
+        due.holds("On each row, a transaction holds no lock, a shared lock (S) or an exclusive lock (X).",
+            WhatItIsTest::locksAreNoneSharedOrExclusive);
         due.holds("Each row has a FIFO wait queue, where position 0 is the head.", WhatItIsTest::queuesAreFifo);
         due.holds("A transaction is in a queue exactly when its state is ST_WAITING, and then it is in exactly one"
             + " queue.", WhatItIsTest::theWaitingAreInOneQueue);
@@ -22,7 +29,65 @@ public final class WhatItIsTest {
         due.holds("All arithmetic wraps as Java int.", WhatItIsTest::arithmeticWraps);
         due.holds("Every call accepts any int arguments.", WhatItIsTest::anyArgumentsAreAccepted);
         due.holds("A refused call changes nothing at all.", WhatItIsTest::refusedCallsChangeNothing);
+        due.holds("ST_IDLE = 0: not yet begun; script editable.", WhatItIsTest::theIdleAreEditable);
+        due.holds("ST_ABORTED = 3: rolled back, awaits restart.", WhatItIsTest::theAbortedAwaitRestart);
+        due.holds("EV_NONE = 0: nothing could take a turn.", WhatItIsTest::noneWhenNothingCanAct);
         due.end();
+    }
+
+    /** Two write the same two rows crosswise; who is wounded, waits or dies is a matter of age alone. */
+    private static void crossedWritersGoByAge() {
+        String[] events = {"2 2 2 1 5 2 2 5 0", "2 2 3 2 1 5 2 2 5 0", "2 2 3 4 2 1 5 2 2 5 0", "2 2 4 2 1 5 2 2 5 0"};
+        for (int policy = 0; policy <= 1; policy++) {
+            for (int older = 0; older <= 1; older++) {
+                WoundWaitLocks x = new WoundWaitLocks(policy, 2, 2);
+                Table.script(x, 0, "w0+1 w1+1");
+                Table.script(x, 1, "w1+2 w0+2");
+                Table.beginAll(x, older, 1 - older);
+                String want = events[2 * policy + older];
+                int steps = want.split(" ").length;
+                due.same("events under " + policy + " with " + older + " older", Table.events(x, steps), want);
+                due.is("F_COMMIT_RANK of the older", x.txInfo(older, WoundWaitLocks.F_COMMIT_RANK), 1);
+                due.is("F_ABORTS of the older", x.txInfo(older, WoundWaitLocks.F_ABORTS), 0);
+                due.is("F_ABORTS of the younger", x.txInfo(1 - older, WoundWaitLocks.F_ABORTS), 1);
+            }
+        }
+    }
+
+    /** 0 has written row 0 three times and read it between, when 1 wounds it. */
+    private static void theAbortedAreUndoneAndRestart() {
+        WoundWaitLocks x = new WoundWaitLocks(WoundWaitLocks.WOUND_WAIT, 2, 2);
+        x.setRow(0, 40);
+        Table.script(x, 0, "w0+1 w0+2 r0 w0+3");
+        Table.script(x, 1, "r1 r1 r1 r0");
+        Table.beginAll(x, 1, 0);
+        x.run(7);
+        due.is("rowValue(0) when written", x.rowValue(0), 5);
+        due.is("step() of 1", x.step(), WoundWaitLocks.EV_OP);
+        due.is("lastWounds()", x.lastWounds(), 1);
+        due.is("rowValue(0) when undone", x.rowValue(0), 40);
+        due.is("step() of 0", x.step(), WoundWaitLocks.EV_RESTART);
+        due.is("F_TIMESTAMP of 0", Table.timestamp(x, 0), 2);
+        due.same("events", Table.events(x, 6), "5 2 2 2 2 5");
+        due.is("rowValue(0) in the end", x.rowValue(0), 5);
+    }
+
+    /** Each has a row to itself, so that every step moves the pc of one alone, and of each in its turn. */
+    private static void oneActsPerStep() {
+        for (int txs = 2; txs <= 8; txs++) {
+            WoundWaitLocks x = new WoundWaitLocks(0, 8, txs);
+            for (int tx = 0; tx < txs; tx++) {
+                Table.script(x, tx, "r" + tx + " w" + tx + "+1 r" + tx);
+                x.begin(tx);
+            }
+            for (int i = 0; i < 3 * txs; i++) {
+                x.step();
+                for (int tx = 0; tx < txs; tx++) {
+                    int turns = i / txs + (tx <= i % txs ? 1 : 0);
+                    due.is("F_PC of " + tx + " after step " + i, x.txInfo(tx, WoundWaitLocks.F_PC), turns);
+                }
+            }
+        }
     }
 
     private static void rowsAreZeroAtFirst() {
@@ -89,6 +154,23 @@ public final class WhatItIsTest {
             }
         }
         due.yes("some were committed", committed > 0);
+    }
+
+    /** The three modes are met in the situations, and X of one never beside a lock of another. */
+    private static void locksAreNoneSharedOrExclusive() {
+        boolean[] met = new boolean[3];
+        for (int number = 0; number < Situations.COUNT; number++) {
+            WoundWaitLocks x = Situations.make(number);
+            for (int row = 0; row < Situations.ROWS; row++) {
+                String modes = Table.holders(x, Situations.TXS, row);
+                String name = Situations.name(number) + ": the locks on " + row + ", " + modes;
+                due.yes(name, modes.matches("[01 ]*|[0 ]*2[0 ]*"));
+                for (int mode = 0; mode <= 2; mode++) {
+                    met[mode] |= modes.contains("" + mode);
+                }
+            }
+        }
+        due.yes("each mode is met", met[0] && met[1] && met[2]);
     }
 
     /** The head is the first that came, and the first to go; seven stand in the queue of the last row. */
@@ -289,5 +371,58 @@ public final class WhatItIsTest {
                 }
             }
         });
+    }
+
+    private static void theIdleAreEditable() {
+        for (int number = 0; number < Situations.COUNT; number++) {
+            WoundWaitLocks x = Situations.make(number);
+            for (int tx = 0; tx < Situations.TXS; tx++) {
+                boolean idle = !Situations.hasBegun(number) || tx == Situations.IDLE_TX;
+                String name = Situations.name(number) + ": transaction " + tx;
+                int length = x.txInfo(tx, WoundWaitLocks.F_LENGTH);
+                due.yes(name + " is idle", idle == (Table.state(x, tx) == WoundWaitLocks.ST_IDLE));
+                if (length < 8) {
+                    due.yes(name + " takes an operation", idle == x.addOp(tx, WoundWaitLocks.OP_READ, 0, 0));
+                }
+            }
+        }
+    }
+
+    private static void theAbortedAwaitRestart() {
+        int met = 0;
+        for (int number = 0; number < Situations.COUNT; number++) {
+            WoundWaitLocks x = Situations.make(number);
+            for (int tx = 0; tx < Situations.TXS; tx++) {
+                if (Table.state(x, tx) == WoundWaitLocks.ST_ABORTED) {
+                    met++;
+                    String name = Situations.name(number) + ": transaction " + tx;
+                    for (int row = 0; row < Situations.ROWS; row++) {
+                        due.is(name + " on row " + row, x.holdMode(tx, row), WoundWaitLocks.MODE_NONE);
+                    }
+                    due.is(name + ", its next event", nextEventOf(x, tx), WoundWaitLocks.EV_RESTART);
+                }
+            }
+        }
+        due.yes("some were aborted", met > 0);
+    }
+
+    private static int nextEventOf(WoundWaitLocks x, int tx) {
+        int event = x.step();
+        for (int i = 1; i < Situations.TXS && x.lastTx() != tx; i++) {
+            event = x.step();
+        }
+        return event;
+    }
+
+    /** No one has begun, or all that have begun are done; one more begin, and there is a turn again. */
+    private static void noneWhenNothingCanAct() {
+        WoundWaitLocks x = new WoundWaitLocks(WoundWaitLocks.WAIT_DIE, 2, 3);
+        Table.script(x, 2, "w0+1");
+        for (int tx = 0; tx < 3; tx++) {
+            due.is("step() before begin(" + tx + ")", x.step(), WoundWaitLocks.EV_NONE);
+            x.begin(tx);
+            due.no("EV_NONE after begin(" + tx + ")", x.step() == WoundWaitLocks.EV_NONE);
+        }
+        due.same("events", Table.events(x, 2), "5 0");
     }
 }
